@@ -1490,24 +1490,28 @@ public final class CrumpledSheet {
             if (round >= MOST_ROUNDS) {
                 return NONE;
             }
-            // taken now: what breaks in this pressing changes neither total nor what was foretold of it
-            int total = lengthOfRounds(0, MOST_ROUNDS);
-            put(foretoldRow, round + 1, expectedBreaks(tight, total, true));
             round++;
+            // what breaks in this pressing does not change its total
+            int total = lengthOfRounds(0, MOST_ROUNDS);
             for (int r = 0; r < ridges; r++) {
                 putRidge(r, USED, ridgePart(r, USED) + 1);
             }
             int there = facets;
             int broken = 0;
+            int foretold = 0;
             for (int f = 0; f < there; f++) {
                 int chance = drawn() % MOST_BREAKS;
                 fillWords(f, tight, round, total);
-                boolean room = facets < MOST_FACETS && ridges < MOST_RIDGES && longOf(f) >= 2;
-                if (room && chance < law.tells(BREAKS, words, 0, MOST_BREAKS, 0)) {
+                int told = law.tells(BREAKS, words, 0, MOST_BREAKS, 0);
+                boolean canBreak = longOf(f) >= 2;
+                // a FACET that breaks changes no other one: until its turn comes each is as it was ahead of the pressing
+                foretold += canBreak ? told * shortOf(f) : 0;
+                if (canBreak && chance < told && facets < MOST_FACETS && ridges < MOST_RIDGES) {
                     breakFacet(f);
                     broken++;
                 }
             }
+            put(foretoldRow, round, foretold);
             return broken;
         }
 

@@ -183,6 +183,9 @@ public final class PromisesTest {
         fault(1, "turn;".repeat(12), 60, 0);
         fault(0, "at 1;".repeat(12) + "soft 1", 60, 4);
         fault(2, "see 1=1;".repeat(12) + " miss", 97, 4);
+        fault(1, "turn" + " ".repeat(395) + "x", 399, 0);
+        fine(1, " ".repeat(390) + "press00001");
+        fault(1, "turn" + " ".repeat(395) + ";", 400, 0);
     }
 
     private static void p4FaultsOfDoingsAndStrips() {
@@ -293,6 +296,7 @@ public final class PromisesTest {
         due("brackets", breaks("breaks 1000 if [1=1 or 1=2] and 1=2", 8, 4, 1, 7), 0);
         due("not of one fact", breaks("breaks 1000 if not 1=2 and 1=2", 8, 4, 1, 7), 0);
         due("not of brackets", breaks("breaks 1000 if not [1=2 and 1=2]", 8, 4, 1, 7), 1);
+        due("the twelfth clause", breaks("breaks 0 if way=1;".repeat(11) + "breaks 1000 if way=0", 8, 4, 1, 7), 1);
         int[][] places = {{0, 1}, {124, 1}, {125, 1}, {249, 1}, {250, 2}, {874, 6}, {875, 7}, {1000, 7}, {99999, 7}};
         for (int[] p : places) {
             CrumpledSheet x = with("breaks 1000;at " + p[0], 8, 4, 1);
@@ -374,9 +378,14 @@ public final class PromisesTest {
         due("stops at 60 rounds", x.done(2, 0), 58);
         due("not turned", x.of(0, 0), 4);
         due("nothing can be", x.done(2, 0), 0);
-        due("no such doing", x.done(3, 0), NONE);
+        due("no such doing", x.done(4, 0), NONE);
+        x.sheet(8, 4, 0, 0);
+        text(x, 1, "turn;".repeat(11) + "fold level 7");
+        due("twelve clauses", x.done(3, 1), 12);
+        due("the twelfth one", x.ridge(1, 0, 1), 7);
         due("no such doing", x.done(-1, 0), NONE);
-        due("no such sheet", x.done(0, 1), NONE);
+        due("no such sheet", x.done(0, 2), NONE);
+        due("no such sheet", x.done(0, -1), NONE);
     }
 
     private static void p10to12Parts() {
@@ -441,6 +450,11 @@ public final class PromisesTest {
         due("foretold 0", x.foretold(0, 0), NONE);
         due("foretold 3", x.foretold(0, 3), NONE);
         due("foretold of no sheet", x.foretold(1, 1), NONE);
+        CrumpledSheet last = with("breaks 7 if round = 60", 8, 4, 1);
+        for (int i = 0; i < 60; i++) last.press(0, 1);
+        due("foretold 60", last.foretold(0, 60), 28);
+        due("foretold 59", last.foretold(0, 59), 0);
+        due("foretold 61", last.foretold(0, 61), NONE);
         CrumpledSheet y = with(HALVING, 8, 4, 1);
         y.press(0, 1);
         y.fold(0, 1, 1);
@@ -524,6 +538,9 @@ public final class PromisesTest {
         due("often what is folded", x.often(3, 0, 0), 0);
         due("often, none", x.often(0, 0, 1), -2);
         due("often of nothing", x.often(0, 1, 0), 0);
+        CrumpledSheet y = tee();
+        text(y, 2, "see 1=2;".repeat(11) + "see way=1");
+        due("the twelfth clause", y.seen(0, 0, 1), 2);
         int[][] bad = {{6, 0, 0}, {-1, 0, 0}, {0, 2, 0}, {0, -1, 0}, {0, 0, 3}, {0, 0, -1}};
         for (int[] b : bad) {
             due("not seen", x.seen(b[0], b[1], b[2]), NONE);
@@ -578,7 +595,10 @@ public final class PromisesTest {
             text(x, 3, texts[i]);
             for (int what = 0; what < 6; what++) due("strip " + texts[i] + " what " + what, x.strip(i, what), want[i][what]);
         }
-        due("strip 5", x.strip(5, 0), -2);
+        text(x, 3, "1M".repeat(20) + "9999");
+        int[] twenty = {20, 1, 20, 0, 9999, 0};
+        for (int what = 0; what < 6; what++) due("strip of twenty what " + what, x.strip(5, what), twenty[what]);
+        due("strip 6", x.strip(6, 0), -2);
         due("strip -1", x.strip(-1, 0), -2);
         due("what 6", x.strip(0, 6), -2);
         due("what -1", x.strip(0, -1), -2);
