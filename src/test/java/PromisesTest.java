@@ -297,6 +297,9 @@ public final class PromisesTest {
         due("not of one fact", breaks("breaks 1000 if not 1=2 and 1=2", 8, 4, 1, 7), 0);
         due("not of brackets", breaks("breaks 1000 if not [1=2 and 1=2]", 8, 4, 1, 7), 1);
         due("the twelfth clause", breaks("breaks 0 if way=1;".repeat(11) + "breaks 1000 if way=0", 8, 4, 1, 7), 1);
+        CrumpledSheet twelve = with("breaks 1000" + ";at 0 if way=1".repeat(10) + ";at 875", 8, 4, 1);
+        twelve.press(0, 1);
+        due("an at as the twelfth clause", twelve.ridge(0, 0, 1), 7);
         int[][] places = {{0, 1}, {124, 1}, {125, 1}, {249, 1}, {250, 2}, {874, 6}, {875, 7}, {1000, 7}, {99999, 7}};
         for (int[] p : places) {
             CrumpledSheet x = with("breaks 1000;at " + p[0], 8, 4, 1);
@@ -541,6 +544,8 @@ public final class PromisesTest {
         CrumpledSheet y = tee();
         text(y, 2, "see 1=2;".repeat(11) + "see way=1");
         due("the twelfth clause", y.seen(0, 0, 1), 2);
+        text(y, 2, "see 1=1;".repeat(11) + "miss way=1");
+        due("a miss as the twelfth clause", y.seen(1, 0, 1), 8);
         int[][] bad = {{6, 0, 0}, {-1, 0, 0}, {0, 2, 0}, {0, -1, 0}, {0, 0, 3}, {0, 0, -1}};
         for (int[] b : bad) {
             due("not seen", x.seen(b[0], b[1], b[2]), NONE);
@@ -577,6 +582,13 @@ public final class PromisesTest {
         y.press(0, 1);
         due("where four facets meet", y.corners(0, 4), 3);
         due("flat", y.flat(0), 1);
+        CrumpledSheet wide = with("breaks 0", 200, 200, 0);
+        for (int way = 0; way < 2; way++) {
+            wide.fold(0, way, 199);
+            wide.fold(0, way, 1);
+        }
+        due("near all edges of the widest sheet", wide.corners(0, 0), 4);
+        due("all with four arms", wide.corners(0, 4), 4);
         CrumpledSheet odd = with("breaks 0;soft 1", 3, 5, 0);
         odd.fold(0, 1, 2);
         due("soft at once, by 2 downwards", odd.strength(0, 100 / 2), 2);
@@ -662,10 +674,15 @@ public final class PromisesTest {
         text(x, 1, "press 1;fold level 1;turn");
         due("both turned", x.alike(0, 3), 2);
         due("which", x.which(0), 3);
-        int[][] bad = {{4, 0, 0}, {-1, 0, 0}, {0, 1, 0}, {0, -1, 0}, {0, 0, -1}};
+        x.fold(0, 1, 5);
+        text(x, 1, "turn");
+        text(x, 1, "fold upright 5;press 1;fold level 1;fold upright 4;turn");
+        due("the sixth", x.alike(0, 5), 3);
+        due("which", x.which(0), 5);
+        int[][] bad = {{6, 0, 0}, {-1, 0, 0}, {0, 1, 0}, {0, -1, 0}, {0, 0, -1}};
         for (int[] b : bad) due("no after", x.after(b[0], b[1], b[2]), NONE);
         due("no alike", x.alike(1, 0), NONE);
-        due("no alike", x.alike(0, 4), NONE);
+        due("no alike", x.alike(0, 6), NONE);
         due("no which", x.which(1), NONE);
     }
 
