@@ -1,61 +1,6 @@
 /** Promise by promise: calls whose answers were worked out by hand from the document. */
-public final class PromisesTest {
-    private static final int NONE = CrumpledSheet.NONE;
+public final class PromisesTest extends Checks {
     private static final String HALVING = "breaks 1000;at 500;soft 2";
-
-    private static int wrong = 0;
-    private static int right = 0;
-
-    private static void due(String call, int got, int want) {
-        if (got == want) {
-            right++;
-        } else {
-            wrong++;
-            System.out.println(call + " answered " + got + ", due is " + want);
-        }
-    }
-
-    private static void due(String call, boolean got, boolean want) {
-        due(call, got ? 1 : 0, want ? 1 : 0);
-    }
-
-    private static void tape(CrumpledSheet x, String text) {
-        x.end(0);
-        for (int i = 0; i < text.length(); i += 20) {
-            int[] numbers = new int[5];
-            for (int b = 0; b < 20 && i + b < text.length(); b++) numbers[b / 4] |= text.charAt(i + b) << 24 - b % 4 * 8;
-            x.feed(numbers[0], numbers[1], numbers[2], numbers[3], numbers[4]);
-        }
-        x.end(text.length());
-    }
-
-    private static int text(CrumpledSheet x, int sort, String text) {
-        tape(x, text);
-        return x.text(sort);
-    }
-
-    private static void fault(int sort, String text, int place, int kind) {
-        due("fault of '" + text + "'", text(new CrumpledSheet(), sort, text), -2 - (1 + 8 * place + kind));
-    }
-
-    private static void fine(int sort, String text) {
-        due("text '" + text + "'", text(new CrumpledSheet(), sort, text), 0);
-    }
-
-    private static CrumpledSheet with(String law, int wide, int high, int seed) {
-        CrumpledSheet x = new CrumpledSheet();
-        due("law '" + law + "'", text(x, 0, law), 0);
-        due("sheet", x.sheet(wide, high, 0, seed), 0);
-        return x;
-    }
-
-    private static void facet(CrumpledSheet x, int facet, int... want) {
-        for (int i = 0; i < want.length; i++) due("facet " + facet + " what " + i, x.facet(0, facet, i), want[i]);
-    }
-
-    private static void ridge(CrumpledSheet x, int ridge, int... want) {
-        for (int i = 0; i < want.length; i++) due("ridge " + ridge + " what " + i, x.ridge(0, ridge, i), want[i]);
-    }
 
     /** Presses a new SHEET once: how many broke by this LAW. */
     private static int breaks(String law, int wide, int high, int seed, int tight) {
@@ -795,7 +740,6 @@ public final class PromisesTest {
         p38and39Runs();
         p41to43Images();
         p43Draws();
-        System.out.println(right + " answers are as due, " + wrong + " are not");
-        if (wrong != 0) System.exit(1);
+        finish();
     }
 }
