@@ -7,6 +7,7 @@ public final class BoundariesTest extends Checks {
         ReaderBoundaries.run();
         FieldBoundaries.run();
         FaceBoundaries.run();
+        AgainBoundaries.run();
         finish(1, 43);
     }
 }

@@ -2,8 +2,6 @@ import java.io.IOException;
 import java.math.BigInteger;
 import java.nio.file.Files;
 import java.nio.file.Path;
-import java.util.ArrayList;
-import java.util.List;
 import java.util.Set;
 import java.util.TreeSet;
 import java.util.function.IntUnaryOperator;
@@ -206,71 +204,24 @@ abstract class Checks {
     }
 
     static void changesNothing(String what, Supplier<CrumpledSheet> maker, ToIntFunction<CrumpledSheet> call) {
-        Supplier<CrumpledSheet> called = () -> {
+        sameAnswers(what + " changes nothing", maker, () -> {
             CrumpledSheet x = maker.get();
             call.applyAsInt(x);
             return x;
-        };
-        List<ToIntFunction<CrumpledSheet>> questions = questions(maker.get());
-        CrumpledSheet one = null;
-        CrumpledSheet other = null;
+        });
+    }
+
+    /** All that can be asked of the one is answered alike by the other. */
+    static void sameAnswers(String what, Supplier<CrumpledSheet> one, Supplier<CrumpledSheet> other) {
+        Questions questions = Questions.of(one.get());
+        CrumpledSheet x = null;
+        CrumpledSheet y = null;
         for (int i = 0; i < questions.size(); i++) {
             if (i % MOST_QUESTIONS == 0) {
-                one = maker.get();
-                other = called.get();
+                x = one.get();
+                y = other.get();
             }
-            int want = questions.get(i).applyAsInt(one);
-            due(what + " changes nothing (question " + i + ")", questions.get(i).applyAsInt(other), want);
+            due(what + ": " + questions.name(i), questions.ask(i, y), questions.ask(i, x));
         }
-    }
-
-    /** All that can be asked of such an object, one behind the other: the last ones show what is hidden. */
-    private static List<ToIntFunction<CrumpledSheet>> questions(CrumpledSheet like) {
-        List<ToIntFunction<CrumpledSheet>> all = new ArrayList<>();
-        for (int i = 0; i < 8; i++) addQuestion(all, i, (x, n) -> x.count(n));
-        int sheets = like.count(0);
-        for (int s = 0; s < sheets; s++) addQuestionsOfSheet(all, like, s);
-        for (int s = 0; s < 6; s++) addQuestionsOfTexts(all, s);
-        for (int s = 0; s < sheets; s++) {
-            // as many FACETS as break show the draws, too
-            addQuestion(all, s, (x, n) -> x.press(n, 50));
-            addQuestion(all, s, (x, n) -> x.ridge(n, x.of(n, 4) - 1, 1));
-        }
-        for (int sort = 0; sort < 4; sort++) addQuestion(all, sort, (x, n) -> x.text(n));
-        for (int k = 0; k < 4; k++) {
-            addQuestion(all, k, (x, n) -> x.back(n));
-            for (int s = 0; s < 6; s++) {
-                addQuestion(all, s, (x, n) -> x.of(n, 2));
-                addQuestion(all, s, (x, n) -> x.of(n, 5));
-            }
-        }
-        addQuestion(all, 0, (x, n) -> x.sheet(2, 2, n, 0));
-        return all;
-    }
-
-    private interface Numbered {
-        int ask(CrumpledSheet x, int n);
-    }
-
-    private static void addQuestion(List<ToIntFunction<CrumpledSheet>> all, int n, Numbered question) {
-        all.add(x -> question.ask(x, n));
-    }
-
-    private static void addQuestionsOfSheet(List<ToIntFunction<CrumpledSheet>> all, CrumpledSheet like, int s) {
-        for (int i = 0; i < 7; i++) addQuestion(all, i, (x, n) -> x.of(s, n));
-        int facets = like.of(s, 3);
-        int ridges = like.of(s, 4);
-        int rounds = like.of(s, 2);
-        for (int i = 0; i < facets * 4; i++) addQuestion(all, i, (x, n) -> x.facet(s, n / 4, n % 4));
-        for (int i = 0; i < ridges * 7; i++) addQuestion(all, i, (x, n) -> x.ridge(s, n / 7, n % 7));
-        for (int i = 1; i <= rounds; i++) addQuestion(all, i, (x, n) -> x.foretold(s, n));
-        addQuestion(all, 50, (x, n) -> x.expected(s, n, 0));
-    }
-
-    private static void addQuestionsOfTexts(List<ToIntFunction<CrumpledSheet>> all, int text) {
-        for (int i = 0; i < 6; i++) addQuestion(all, i, (x, n) -> x.strip(text, n));
-        addQuestion(all, text, (x, n) -> x.after(n, 0, 2));
-        addQuestion(all, text, (x, n) -> x.alike(0, n));
-        addQuestion(all, text, (x, n) -> x.seen(n, 0, 1));
     }
 }

@@ -9,6 +9,7 @@ final class SheetBoundaries extends Checks {
         newObject();
         newSheets();
         sixSheets();
+        longAndShort();
         ways();
         edges();
         draws();
@@ -60,6 +61,8 @@ final class SheetBoundaries extends Checks {
     // ==== new ones
 
     private static void newObject() {
+        sentence(1, "NONE = -1");
+        due("NONE", CrumpledSheet.NONE, -1);
         sentence(1, "No SHEETS, no texts");
         CrumpledSheet x = new CrumpledSheet();
         dueRow("count", x::count, 0, 0, 0, 0, 0, 0, 0, 0);
@@ -126,6 +129,15 @@ final class SheetBoundaries extends Checks {
     }
 
     // ==== FACETS
+
+    private static void longAndShort() {
+        sentence(6, "long: the greater of its sides, short: the other one");
+        int[][] sides = {{5, 4}, {4, 5}, {4, 4}, {2, 200}, {200, 2}, {2, 2}, {200, 199}};
+        for (int[] s : sides) {
+            CrumpledSheet x = with("breaks 4*long+short", s[0], s[1], 0);
+            due(s[0] + " by " + s[1], x.expected(0, 1, 1), 4 * Math.max(s[0], s[1]) + Math.min(s[0], s[1]));
+        }
+    }
 
     private static void ways() {
         sentence(6, "way of a FACET: 0, if wide is long (alike, too), else 1");
@@ -292,6 +304,11 @@ final class SheetBoundaries extends Checks {
             due("a ROUND nevertheless", x.of(0, 2), 2);
             due("used nevertheless", x.ridge(0, 0, 6), 3);
         }
+        sentence(6, "RIDGES, 400 at most");
+        // each RIDGE brings a FACET at least, so that FACETS fill up first: no more than 199 RIDGES can ever come
+        due("RIDGES of 200 FACETS", rows(200).of(0, 4), 199);
+        due("none is pressed", rows(200).press(0, 1), 0);
+        due("none is folded", rows(200).fold(0, 0, 1), NONE);
         sentence(6, "and there is room for a FACET and a RIDGE, it BREAKS");
         CrumpledSheet first = rows(199);
         first.press(0, 1);

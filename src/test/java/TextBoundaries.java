@@ -34,6 +34,7 @@ final class TextBoundaries extends Checks {
         values();
         valuesOfAllClauses();
         firstFaults();
+        badNumbers();
         leastFaults();
         grammar();
     }
@@ -125,6 +126,12 @@ final class TextBoundaries extends Checks {
         sentence(4, "NONE, and nothing happens: there are 6, or no such sort");
         limits("text", 0, 3, sort -> taped(A_TEXT_OF_EACH_SORT[sort & 3]).text(sort));
         for (int sort : new int[] {MIN, -1, 4, MAX}) refused("text(" + sort + ")", NONE, () -> taped("turn"), x -> x.text(sort));
+        sentence(4, "sort 0: a LAW, 1: a DOING, 2: a RULE, 3: a STRIP: its number");
+        for (int told = 0; told < 4; told++) {
+            for (int sort = 0; sort < 4; sort++) {
+                due("a text of sort " + told + " as " + sort, taped(A_TEXT_OF_EACH_SORT[told]).text(sort), told == sort ? 0 : -3);
+            }
+        }
     }
 
     private static void sixTexts() {
@@ -386,7 +393,17 @@ final class TextBoundaries extends Checks {
         String[] signs = {"<", "<=", "=", ">=", ">"};
         boolean[][] want = {{true, false, false}, {true, true, false}, {false, true, false}, {false, true, true}, {false, false, true}};
         for (int i = 0; i < signs.length; i++) {
-            for (int left = 6; left <= 8; left++) holds(left + signs[i] + "7", want[i][left - 6]);
+            for (int left = 6; left <= 8; left++) {
+                String fact = left + signs[i] + "7";
+                boolean held = want[i][left - 6];
+                holds(fact, held);
+                holds("not " + fact, !held);
+                holds("not not " + fact, held);
+                holds("1=1 and " + fact, held);
+                holds("1=2 or " + fact, held);
+                holds("1=1 or " + fact, true);
+                holds("1=2 and " + fact, false);
+            }
         }
         faulty(RULE, "see 1 = ^= 1", UNFIT);
         faulty(RULE, "see 1=^<1", UNFIT);
@@ -620,6 +637,20 @@ final class TextBoundaries extends Checks {
         faulty(DOING, "press ^0 times 0", BAD_NUMBER);
         faulty(DOING, "fold ^middle 0", UNFIT);
         due("at place 0", text(new CrumpledSheet(), STRIP, "0"), -2 - 2);
+    }
+
+    private static void badNumbers() {
+        sentence(4, "1 a NUMBER of more digits, or not as told");
+        faulty(LAW, "soft ^100", BAD_NUMBER);
+        faulty(LAW, "soft ^000001", BAD_NUMBER);
+        faulty(LAW, "breaks ^100000", BAD_NUMBER);
+        faulty(LAW, "breaks 1 if 1=^100000", BAD_NUMBER);
+        faulty(RULE, "see ^0000000000<1", BAD_NUMBER);
+        faulty(DOING, "press ^0", BAD_NUMBER);
+        faulty(DOING, "press 1 times  ^61 ;?", BAD_NUMBER);
+        faulty(DOING, "fold level ^200", BAD_NUMBER);
+        faulty(STRIP, "^0", BAD_NUMBER);
+        faulty(STRIP, "5 M ^10000 V", BAD_NUMBER);
     }
 
     private static void leastFaults() {
