@@ -2,8 +2,6 @@ import java.util.function.Supplier;
 
 /** Objects that were used before: nothing is left of what was cut off, was FAULTY, or was gone back from. */
 final class AgainBoundaries extends Checks {
-    private static final String HALVING = "breaks 1000;at 500";
-
     static void run() {
         bytesCutOff();
         faultyLaws();

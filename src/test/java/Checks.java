@@ -18,6 +18,7 @@ abstract class Checks {
     static final int DOING = 1;
     static final int RULE = 2;
     static final int STRIP = 3;
+    static final String HALVING = "breaks 1000;at 500";
     static final String[] A_TEXT_OF_EACH_SORT = {"breaks 1", "turn", "see 1=1", "5"};
     /** Far beyond every limit, and such as would be taken if only their lowest bits were looked at. */
     private static final int[] FAR = {MIN, MIN + 1, -65536, -256, 256, 65536, 65537, 65538, MAX - 1, MAX};
@@ -138,6 +139,18 @@ abstract class Checks {
         CrumpledSheet x = new CrumpledSheet();
         due("law '" + law + "'", text(x, LAW, law), 0);
         due("sheet", x.sheet(wide, high, 0, seed), 0);
+        return x;
+    }
+
+    /** A SHEET that never breaks. */
+    static CrumpledSheet still(int wide, int high) {
+        return with("breaks 0", wide, high, 0);
+    }
+
+    /** A SHEET 8 by 4 that breaks into halves: 4, 8, 8, 16, 16 long are its first five ROUNDS, then it is dust. */
+    static CrumpledSheet halved(int rounds) {
+        CrumpledSheet x = with(HALVING, 8, 4, 0);
+        press(x, 0, 1, rounds);
         return x;
     }
 

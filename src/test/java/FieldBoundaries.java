@@ -2,8 +2,6 @@ import java.util.function.Supplier;
 
 /** Promises 31 to 39 and 41 to 43 and the Terms of VI at their limits: FACETS beside one another, what would be, IMAGES. */
 final class FieldBoundaries extends Checks {
-    private static final String HALVING = "breaks 1000;at 500";
-
     static void run() {
         besideByOne();
         mostOfSeveral();
@@ -24,19 +22,9 @@ final class FieldBoundaries extends Checks {
         neverMade();
     }
 
-    private static CrumpledSheet still(int wide, int high) {
-        return with("breaks 0", wide, high, 0);
-    }
-
     private static CrumpledSheet row(int facets) {
         CrumpledSheet x = still(200, 2);
         for (int i = 1; i < facets; i++) x.fold(0, 0, i);
-        return x;
-    }
-
-    private static CrumpledSheet halved(int rounds) {
-        CrumpledSheet x = with(HALVING, 8, 4, 0);
-        press(x, 0, 1, rounds);
         return x;
     }
 

@@ -2,8 +2,6 @@ import java.util.function.IntFunction;
 
 /** Promises 13 to 23 and the Terms of III at their limits: lengths by ROUNDS, what comes next, sizes. */
 final class LengthBoundaries extends Checks {
-    private static final String HALVING = "breaks 1000;at 500";
-
     static void run() {
         roundsOfLengths();
         lastRound();
@@ -20,13 +18,6 @@ final class LengthBoundaries extends Checks {
         classesAtTheirEnds();
         apartness();
         likestOfSeveral();
-    }
-
-    /** A SHEET 8 by 4 that breaks into halves: 4, 8, 8, 16, 16 long are its first five ROUNDS, then it is dust. */
-    private static CrumpledSheet halved(int rounds) {
-        CrumpledSheet x = with(HALVING, 8, 4, 0);
-        press(x, 0, 1, rounds);
-        return x;
     }
 
     // ==== LENGTH, ADDS

@@ -1,6 +1,6 @@
 /** Promise by promise: calls whose answers were worked out by hand from the document. */
 public final class PromisesTest extends Checks {
-    private static final String HALVING = "breaks 1000;at 500;soft 2";
+    private static final String SOFT_HALVING = "breaks 1000;at 500;soft 2";
 
     /** Presses a new SHEET once: how many broke by this LAW. */
     private static int breaks(String law, int wide, int high, int seed, int tight) {
@@ -9,7 +9,7 @@ public final class PromisesTest extends Checks {
 
     /** A SHEET 6 by 4: a fold upright at 2, a ridge level at 2 that ends on it, a ridge upright at 4. */
     private static CrumpledSheet tee() {
-        CrumpledSheet x = with(HALVING, 6, 4, 0);
+        CrumpledSheet x = with(SOFT_HALVING, 6, 4, 0);
         x.fold(0, 0, 2);
         x.press(0, 7);
         return x;
@@ -178,7 +178,7 @@ public final class PromisesTest extends Checks {
     }
 
     private static void p6Press() {
-        CrumpledSheet x = with(HALVING, 8, 4, 0);
+        CrumpledSheet x = with(SOFT_HALVING, 8, 4, 0);
         due("first", x.press(0, 1), 1);
         facet(x, 0, 0, 0, 4, 4, 3);
         facet(x, 1, 4, 0, 4, 4, 3);
@@ -200,7 +200,7 @@ public final class PromisesTest extends Checks {
         due("sixty rounds", x.of(0, 2), 60);
         due("a sixty-first", x.press(0, 5), NONE);
         due("not used again", x.ridge(0, 0, 6), 60);
-        CrumpledSheet big = with(HALVING, 200, 200, 0);
+        CrumpledSheet big = with(SOFT_HALVING, 200, 200, 0);
         int[] broken = {1, 2, 4, 8, 16, 32, 64, 72, 0};
         for (int b : broken) due("room for 200 facets", big.press(0, 9), b);
         due("facets", big.of(0, 3), 200);
@@ -268,7 +268,7 @@ public final class PromisesTest extends Checks {
     }
 
     private static void p7Fold() {
-        CrumpledSheet x = with(HALVING, 8, 4, 0);
+        CrumpledSheet x = with(SOFT_HALVING, 8, 4, 0);
         due("fold", x.fold(0, 0, 3), 1);
         facet(x, 0, 0, 0, 3, 4, 3);
         facet(x, 1, 3, 0, 5, 4, 3);
@@ -314,7 +314,7 @@ public final class PromisesTest extends Checks {
     }
 
     private static void p9Done() {
-        CrumpledSheet x = with(HALVING, 8, 4, 0);
+        CrumpledSheet x = with(SOFT_HALVING, 8, 4, 0);
         text(x, 1, "press 10 times 2;fold level 1");
         text(x, 1, "turn;fold upright 7;turn");
         text(x, 1, "press 1 times 60;turn");
@@ -349,7 +349,7 @@ public final class PromisesTest extends Checks {
     }
 
     private static void p13to17Lengths() {
-        CrumpledSheet x = with(HALVING, 8, 4, 0);
+        CrumpledSheet x = with(SOFT_HALVING, 8, 4, 0);
         x.fold(0, 1, 1);
         x.press(0, 3);
         x.fold(0, 0, 1);
@@ -403,14 +403,14 @@ public final class PromisesTest extends Checks {
         due("foretold 60", last.foretold(0, 60), 28);
         due("foretold 59", last.foretold(0, 59), 0);
         due("foretold 61", last.foretold(0, 61), NONE);
-        CrumpledSheet y = with(HALVING, 8, 4, 1);
+        CrumpledSheet y = with(SOFT_HALVING, 8, 4, 1);
         y.press(0, 1);
         y.fold(0, 1, 1);
         due("without what was folded", y.miss(0, 1, 1), 0);
     }
 
     private static void p18and19Guess() {
-        CrumpledSheet x = with(HALVING, 8, 4, 0);
+        CrumpledSheet x = with(SOFT_HALVING, 8, 4, 0);
         x.sheet(8, 4, 0, 0);
         due("the other's round is 0", x.guess(0, 1), -2);
         for (int i = 0; i < 3; i++) x.press(0, 1);
@@ -433,7 +433,7 @@ public final class PromisesTest extends Checks {
     }
 
     private static void p20to23Sizes() {
-        CrumpledSheet x = with(HALVING, 8, 4, 0);
+        CrumpledSheet x = with(SOFT_HALVING, 8, 4, 0);
         due("one", x.sizes(0, 2), 32);
         due("class 5", x.classes(0, 5), 1);
         x.fold(0, 0, 1);
@@ -518,7 +518,7 @@ public final class PromisesTest extends Checks {
         x.fold(0, 1, 2);
         due("a fold along a ridge", x.corners(0, 4), 2);
         due("flat", x.flat(0), 1);
-        CrumpledSheet y = with(HALVING, 8, 4, 0);
+        CrumpledSheet y = with(SOFT_HALVING, 8, 4, 0);
         due("without ridges", y.flat(0), 1);
         due("without ridges", y.corners(0, 0), 0);
         y.press(0, 1);
@@ -583,7 +583,7 @@ public final class PromisesTest extends Checks {
         due("beside no facet", x.beside(0, -1), NONE);
         int[][] bad = {{1, 0, 0}, {0, 4, 0}, {0, 0, 4}, {0, -1, 0}, {0, 0, -1}};
         for (int[] b : bad) due("no steps", x.steps(b[0], b[1], b[2]), NONE);
-        CrumpledSheet cross = with(HALVING, 4, 4, 0);
+        CrumpledSheet cross = with(SOFT_HALVING, 4, 4, 0);
         due("alone", cross.beside(0, 0), 0);
         due("alone", cross.heart(0, 1), 0);
         cross.fold(0, 0, 2);
@@ -595,7 +595,7 @@ public final class PromisesTest extends Checks {
     }
 
     private static void p35to37After() {
-        CrumpledSheet x = with(HALVING, 8, 4, 0);
+        CrumpledSheet x = with(SOFT_HALVING, 8, 4, 0);
         due("no doings", x.which(0), -2);
         text(x, 1, "turn");
         text(x, 1, "press 10 times 2;fold level 1");
@@ -644,7 +644,7 @@ public final class PromisesTest extends Checks {
             {0, 0, 1, 1, -1}, {0, 0, 1, 1, 100000}, {-1, 0, 1, 1, 1}};
         for (int[] b : bad) due("no runs", x.runs(b[0], b[1], b[2], b[3], b[4]), NONE);
         due("bar 99999", x.runs(0, 0, Integer.MAX_VALUE, 10, 99999), 0);
-        CrumpledSheet y = with(HALVING, 8, 4, 0);
+        CrumpledSheet y = with(SOFT_HALVING, 8, 4, 0);
         int[][] until = {{200, 0}, {8, 0}, {7, 1}, {4, 1}, {3, 3}, {2, 3}, {1, 5}};
         for (int[] u : until) due("until " + u[0], y.until(0, 9, u[0]), u[1]);
         y.press(0, 1);
@@ -661,7 +661,7 @@ public final class PromisesTest extends Checks {
         CrumpledSheet x = new CrumpledSheet();
         due("never made", x.back(0), NONE);
         due("an image of nothing", x.image(3), 0);
-        text(x, 0, HALVING);
+        text(x, 0, SOFT_HALVING);
         x.sheet(8, 4, 0, 5);
         x.sheet(9, 9, 0, 5);
         x.press(0, 1);

@@ -1,7 +1,5 @@
 /** Promises 24 to 30 and 40 and the Terms of IV and V at their limits: readers, CORNERS, STRENGTH, STRIPS, maps. */
 final class ReaderBoundaries extends Checks {
-    private static final String HALVING = "breaks 1000;at 500";
-
     static void run() {
         seenByRules();
         nothingSeen();
@@ -21,10 +19,6 @@ final class ReaderBoundaries extends Checks {
         longestStrips();
         deepestFolds();
         halvesOfMaps();
-    }
-
-    private static CrumpledSheet still(int wide, int high) {
-        return with("breaks 0", wide, high, 0);
     }
 
     private static CrumpledSheet rule(CrumpledSheet x, String rule) {

@@ -2,7 +2,6 @@ import java.util.function.Supplier;
 
 /** Promises 1 and 5 to 12 and the Terms of SHEETS, FACETS and RIDGES at their limits. */
 final class SheetBoundaries extends Checks {
-    private static final String HALVING = "breaks 1000;at 500";
     private static final String BIG = "65536*65536*65536*32768";
 
     static void run() {
@@ -36,10 +35,6 @@ final class SheetBoundaries extends Checks {
 
     private static CrumpledSheet halving(int wide, int high) {
         return with(HALVING, wide, high, 0);
-    }
-
-    private static CrumpledSheet still(int wide, int high) {
-        return with("breaks 0", wide, high, 0);
     }
 
     /** How many FACETS of a new SHEET 8 by 4 break. */
@@ -282,7 +277,7 @@ final class SheetBoundaries extends Checks {
     }
 
     private static CrumpledSheet rows(int many) {
-        CrumpledSheet x = with("breaks 1000;at 500", 200, 200, 0);
+        CrumpledSheet x = halving(200, 200);
         for (int i = 1; i < many; i++) x.fold(0, 1, i);
         return x;
     }
