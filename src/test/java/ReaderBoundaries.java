@@ -216,6 +216,7 @@ final class ReaderBoundaries extends Checks {
         due("near the far edge", odd.corners(0, 0), 1);
         odd.turn(0);
         due("turned", odd.corners(0, 0), 1);
+        due("turned, of four ARMS", odd.corners(0, 4), 1);
         CrumpledSheet grid = still(200, 200);
         for (int i = 1; i <= 9; i++) grid.fold(0, 0, i * 20);
         for (int i = 1; i <= 19; i++) grid.fold(0, 1, i * 10);
@@ -350,6 +351,9 @@ final class ReaderBoundaries extends Checks {
         due("as long as the one behind", stripped("9M4V4V9").strip(0, 3), 0);
         due("as long as the one ahead", stripped("9V4V4M9").strip(0, 3), 0);
         stripIs("9M4V3M9", 3, 1, 2, 0, 10, 0);
+        stripIs("5V3M3M1V1V3", 5, 1, 3, 0, 5);
+        stripIs("3M3V6", 2, 1, 2, 0, 6, 0);
+        stripIs("6M4V4", 2, 1, 2, 0, 6, 0);
         sentence(30, "these three parts become one, as long as the neighbours together less the part between, both FOLDS go");
         stripIs("2M1V2", 2, 1, 1, 0, 3, 0);
         stripIs("9999M1V9999", 2, 1, 1, 0, 19997, 0);

@@ -226,9 +226,28 @@ final class SheetBoundaries extends Checks {
         due("behind the place's DRAW the fifth", four("breaks 501 if area=38;breaks 1000 if area=2", seedAhead(fourth)).press(0, 1), 2);
         due("a told place has none", four("breaks 501 if area=38;breaks 1000 if area=2;at 5", fourth).press(0, 1), 2);
         due("a told place has none", four("breaks 500 if area=38;breaks 1000 if area=2;at 5", fourth).press(0, 1), 1);
+        fullSheetsDraw();
         CrumpledSheet x = halving(8, 4);
         due("those that come do not break at once", x.press(0, 1), 1);
         due("they do in the next ROUND", x.press(0, 1), 2);
+    }
+
+    /** In its eighth ROUND such a SHEET comes to 200 FACETS: of the 128 that there are 72 break, but all are drawn for. */
+    private static void fullSheetsDraw() {
+        for (int seed : new int[] {3, 4, seedOfDraw(0), seedOfDraw(999)}) {
+            CrumpledSheet x = with("breaks 500 if round=1;breaks 1000;at 500", 200, 200, 0);
+            text(x, DOING, "press 1 times 8");
+            long next = seed;
+            int broken = 0;
+            for (int n = 1; n <= 10; n++) {
+                next = next(next);
+                boolean breaksAtOnce = next / 65536 % 1000 < 500;
+                int drawsMore = breaksAtOnce ? 2 + 4 + 8 + 16 + 32 + 64 + 128 : 1 + 2 + 4 + 8 + 16 + 32 + 64;
+                for (int i = 0; i < drawsMore; i++) next = next(next);
+                if (breaksAtOnce) broken++;
+                due("of " + n + " from " + seed, x.runs(0, 0, seed, n, 4401), broken);
+            }
+        }
     }
 
     // ==== what a LAW tells
@@ -403,6 +422,24 @@ final class SheetBoundaries extends Checks {
             due(words[i] + " at the most", x.expected(0, 99, 1), 1000);
             due(words[i] + " at the most", x.press(0, 99), 1);
         }
+        String[] same = {"long=8", "short=4", "area=32", "round=1", "tight=7", "edge=4", "way=0", "total=0"};
+        for (String test : same) {
+            CrumpledSheet x = with("at 250 if not " + test + ";breaks 1000 if " + test + ";at 750 if " + test, 8, 4, 0);
+            x.press(0, 7);
+            due("both CLAUSES, " + test, x.ridge(0, 0, 1), 6);
+        }
+        String[] sums = {"long*100", "short*200", "area*25", "round*800", "tight*100+100", "edge*200", "way*9+800", "total*9+800"};
+        for (String at : sums) {
+            CrumpledSheet x = with("breaks 1000;at " + at, 8, 4, 0);
+            x.press(0, 7);
+            due("at " + at, x.ridge(0, 0, 1), 6);
+        }
+        CrumpledSheet later = with("breaks 1000;at total*round*tight", 8, 4, 0);
+        later.fold(0, 1, 1);
+        later.press(0, 99);
+        due("at 8*1*99", later.ridge(0, 1, 1), 6);
+        later.press(0, 16);
+        due("12*2*16 of 6", later.ridge(0, 3, 1), 2);
     }
 
     // ==== PRESSED
@@ -563,6 +600,15 @@ final class SheetBoundaries extends Checks {
         dueRow("of", i -> x.of(0, i), 200, 2, 1, 2, 1, 2);
         facet(x, 1, 199, 0, 1, 2, 3);
         ridge(x, 0, 0, 199, 0, 2, 1, 0, 1);
+        CrumpledSheet later = halved(3);
+        later.fold(0, 1, 1);
+        press(later, 0, 9, 1);
+        later.turn(0);
+        ridge(later, 0, 1, 4, 0, 4, 1, 0, 4);
+        ridge(later, 2, 1, 6, 0, 4, 2, 0, 3);
+        ridge(later, 7, 0, 1, 0, 8, 3, 1, 2);
+        dueRow("adds of ROUND", r -> later.adds(0, r), 0, 4, 8, 8 + 8);
+        dueRow("foretold of ROUND", r -> later.foretold(0, r), NONE, 4000, 8000, 8000);
         CrumpledSheet full = grid(20, 10);
         full.turn(0);
         due("the last FACET too", full.facet(0, 199, 0) * 1000 + full.facet(0, 199, 1), 9 * 1000 + 19);

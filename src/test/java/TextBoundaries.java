@@ -456,6 +456,8 @@ final class TextBoundaries extends Checks {
             faulty(LAW, "breaks ^" + word.toUpperCase(), UNFIT);
             faulty(LAW, "breaks " + word + "^`", UNFIT);
             faulty(LAW, "breaks " + word + "^{", UNFIT);
+            faulty(LAW, "breaks " + word + "^Z", UNFIT);
+            faulty(LAW, "breaks " + word + "^_", UNFIT);
             faulty(LAW, "breaks " + word + "^7", UNFIT);
         }
         for (String word : RULE_WORDS) {
@@ -478,6 +480,8 @@ final class TextBoundaries extends Checks {
         faulty(LAW, "breaks5if1=1^ory1=1", UNFIT);
         faulty(LAW, "breaks5if ^nots1=1", UNFIT);
         faulty(DOING, "^turns", UNFIT);
+        faulty(DOING, "turn^S", UNFIT);
+        faulty(DOING, "turn^2", UNFIT);
         faulty(DOING, "turn^`", UNFIT);
         faulty(DOING, "turn^{", UNFIT);
         faulty(DOING, "^`turn", UNFIT);
