@@ -3,6 +3,8 @@ public final class CrumpledSheet {
     public static final int NONE = -1;
 
     private static final int NOT_THERE = -2;
+    /** Lies above all that is compared where the least is looked for. */
+    private static final int ABOVE_ALL = 2147483647;
 
     private static final int MOST_BYTES = 400;
     private static final int FED_BYTES = 20;
@@ -50,6 +52,7 @@ public final class CrumpledSheet {
 
     private static final int MOST_CLAUSES = 12;
     private static final int MOST_DIGITS = 5;
+    private static final int MOST_NUMBER = 99999;
     private static final int MOST_DEEP = 10;
     private static final int MOST_VALUES = 60;
     private static final int MOST_STRIP_FOLDS = 20;
@@ -74,7 +77,7 @@ public final class CrumpledSheet {
     private static final int MOST_BREAKS = 1000;
     private static final int MOST_AT = 1000000;
     /** Lies outside of all that a held SUM can be, so that it can stand for "no CLAUSE tells". */
-    private static final int NO_CLAUSE = Integer.MIN_VALUE;
+    private static final int NO_CLAUSE = -2147483648;
 
     private static final String DOING_CLAUSES = "press fold turn";
     private static final int PRESS = 0;
@@ -355,10 +358,10 @@ public final class CrumpledSheet {
             return NONE;
         }
         int best = NOT_THERE;
-        int least = Integer.MAX_VALUE;
+        int least = ABOVE_ALL;
         for (int i = 0; i < pile.size(); i++) {
             Sheet other = pile.get(i);
-            int apart = other == null || i == sheet ? Integer.MAX_VALUE : one.apartFrom(other);
+            int apart = other == null || i == sheet ? ABOVE_ALL : one.apartFrom(other);
             if (apart < least) {
                 least = apart;
                 best = i;
@@ -957,7 +960,7 @@ public final class CrumpledSheet {
 
         int deepestFold() {
             int best = NONE;
-            int fewest = Integer.MAX_VALUE;
+            int fewest = ABOVE_ALL;
             for (int i = 0; i < foldsTold; i++) {
                 reduce(i);
                 if (left < fewest) {
@@ -1181,7 +1184,7 @@ public final class CrumpledSheet {
             int begin = nextPlace();
             int word = wordAmong(words);
             if (word == NONE) {
-                code.add(NUMBER, number(0, Integer.MAX_VALUE));
+                code.add(NUMBER, number(0, MOST_NUMBER));
             } else {
                 code.add(WORD, word);
             }
@@ -1628,7 +1631,7 @@ public final class CrumpledSheet {
 
         int addsBehind(int lengthTold) {
             int best = 0;
-            int nearest = Integer.MAX_VALUE;
+            int nearest = ABOVE_ALL;
             for (int r = 0; r < round; r++) {
                 int off = Math.abs(lengthOfRounds(0, r) - lengthTold);
                 if (off < nearest) {
@@ -2082,7 +2085,7 @@ public final class CrumpledSheet {
 
         int middle() {
             int best = 0;
-            int nearest = Integer.MAX_VALUE;
+            int nearest = ABOVE_ALL;
             for (int f = 0; f < facets; f++) {
                 int farthest = walkFrom(f);
                 if (farthest < nearest) {

@@ -1,11 +1,14 @@
 import com.sun.source.tree.AssertTree;
+import com.sun.source.tree.BinaryTree;
 import com.sun.source.tree.ClassTree;
 import com.sun.source.tree.CompilationUnitTree;
+import com.sun.source.tree.CompoundAssignmentTree;
 import com.sun.source.tree.ImportTree;
 import com.sun.source.tree.LambdaExpressionTree;
 import com.sun.source.tree.LineMap;
 import com.sun.source.tree.LiteralTree;
 import com.sun.source.tree.MemberReferenceTree;
+import com.sun.source.tree.MemberSelectTree;
 import com.sun.source.tree.MethodInvocationTree;
 import com.sun.source.tree.MethodTree;
 import com.sun.source.tree.NewClassTree;
@@ -16,6 +19,7 @@ import com.sun.source.tree.TryTree;
 import com.sun.source.tree.VariableTree;
 import com.sun.source.util.JavacTask;
 import com.sun.source.util.SourcePositions;
+import com.sun.source.util.TreePath;
 import com.sun.source.util.TreePathScanner;
 import com.sun.source.util.Trees;
 import java.io.File;
@@ -51,6 +55,8 @@ public final class LanguageTest extends TreePathScanner<Void, Void> {
         "java.util.Iterator", "hasNext next", "java.lang.Comparable", "compareTo", "java.lang.Object", "<init> clone");
     private static final Set<String> NUMBERS = Set.of("java.lang.Integer", "java.lang.Long", "java.lang.Math");
     private static final Set<String> IMPORTS = Set.of("java.util.ArrayList", "java.util.List", "java.util.Arrays", "java.util.Iterator");
+    /** The only methods that call one another round: they carry their depth, and ten deep is refused. */
+    private static final Set<String> RECURSION = Set.of("fact", "test");
     private static final String FACE = "feed end text sheet press fold turn done facet ridge of length adds expected foretold "
         + "miss guess curve sizes classes apart likest seen right often corners flat strength strip beside most steps heart "
         + "after alike which runs until halves count image back";
@@ -150,6 +156,31 @@ public final class LanguageTest extends TreePathScanner<Void, Void> {
         return owner.equals("Array") || List.of(LIBRARY.getOrDefault(owner, "").split(" ")).contains(name);
     }
 
+    /** Rule 4 lists functions alone: of the library no constant may be used, only how long an array is. */
+    @Override public Void visitMemberSelect(MemberSelectTree tree, Void v) {
+        Element element = trees.getElement(getCurrentPath());
+        boolean field = element != null && element.getKind() == ElementKind.FIELD;
+        if (field && !isOwn(element) && !tree.getIdentifier().contentEquals("length")) fail(tree, "library: " + tree);
+        return super.visitMemberSelect(tree, v);
+    }
+
+    private boolean isText(Tree tree) {
+        return "java.lang.String".equals(String.valueOf(trees.getTypeMirror(new TreePath(getCurrentPath(), tree))));
+    }
+
+    /** Rule 6 forbids to compare texts by a sign, rule 10 to join them by one. */
+    @Override public Void visitBinary(BinaryTree tree, Void v) {
+        Tree left = tree.getLeftOperand();
+        Tree right = tree.getRightOperand();
+        if (isText(left) || isText(right)) fail(tree, "texts joined or compared by a sign");
+        return super.visitBinary(tree, v);
+    }
+
+    @Override public Void visitCompoundAssignment(CompoundAssignmentTree tree, Void v) {
+        if (isText(tree.getVariable())) fail(tree, "texts joined by a sign");
+        return super.visitCompoundAssignment(tree, v);
+    }
+
     @Override public Void visitImport(ImportTree tree, Void v) {
         if (tree.isStatic() || !IMPORTS.contains(tree.getQualifiedIdentifier().toString())) fail(tree, "an import");
         return super.visitImport(tree, v);
@@ -211,6 +242,8 @@ public final class LanguageTest extends TreePathScanner<Void, Void> {
         for (Element e : new ArrayList<>(calls.keySet())) {
             List<Element> deep = deepest(e, known);
             if (e instanceof ExecutableElement && deep.size() > MOST_DEEP) fail(unit, "too deep: " + deep);
+            boolean guarded = RECURSION.contains(e.getSimpleName().toString());
+            if (reaches(e, e, new HashSet<>()) && !guarded) fail(unit, "calls itself: " + e);
         }
     }
 
