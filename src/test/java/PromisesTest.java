@@ -712,7 +712,22 @@ public final class PromisesTest extends Checks {
         due("place", x.ridge(0, x.of(0, 4) - 1, 1), place);
     }
 
+    /** What README.md shows. */
+    private static void exampleOfReadme() {
+        CrumpledSheet x = new CrumpledSheet();
+        x.feed(0x62726561, 0x6b732035, 0x30300000, 0, 0);
+        due("end", x.end(10), 10);
+        due("law", x.text(0), 0);
+        due("sheet", x.sheet(200, 100, 0, 5), 0);
+        int[] broken = {0, 1, 1};
+        for (int due : broken) due("press", x.press(0, 20), due);
+        due("facets", x.of(0, 3), 3);
+        due("long together", x.of(0, 5), 200);
+        due("a fault", text(x, LAW, "breaks 50x"), -75);
+    }
+
     public static void main(String[] args) {
+        exampleOfReadme();
         p1NewObject();
         p2and3Tape();
         p4Texts();
